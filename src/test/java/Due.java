@@ -1,0 +1,57 @@
+import java.util.function.LongSupplier;
+
+/** Compares answers with those that are due, and tells the ones that are not. */
+final class Due {
+    private static final int MOST_TOLD = 20;
+    private final String test;
+    private long checked = 0;
+    private long wrong = 0;
+
+    Due(String test) {
+        this.test = test;
+    }
+
+    void same(String call, Object got, Object want) {
+        checked++;
+        if (!want.equals(got)) {
+            tell(call + " answered " + got + ", due is " + want);
+        }
+    }
+
+    void same(String call, long got, long want) {
+        checked++;
+        if (got != want) {
+            tell(call + " answered " + got + ", due is " + want);
+        }
+    }
+
+    void same(String call, boolean got, boolean want) {
+        same(call, got ? 1L : 0L, want ? 1L : 0L);
+    }
+
+    /** The call throws an exception of just that class, by a throw statement of the program. */
+    void refused(String call, Class<? extends RuntimeException> want, LongSupplier asked) {
+        checked++;
+        try {
+            tell(call + " answered " + asked.getAsLong() + ", due is " + want.getSimpleName());
+        } catch (RuntimeException thrown) {
+            if (thrown.getClass() != want) {
+                tell(call + " threw " + thrown + ", due is " + want.getSimpleName());
+            }
+        }
+    }
+
+    void end() {
+        System.out.println(test + ": " + checked + " checked, " + wrong + " not as due");
+        if (wrong != 0 || checked == 0) {
+            System.exit(1);
+        }
+    }
+
+    private void tell(String text) {
+        wrong++;
+        if (wrong <= MOST_TOLD) {
+            System.out.println(test + ": " + text);
+        }
+    }
+}
