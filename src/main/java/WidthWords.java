@@ -65,16 +65,13 @@ public final class WidthWords {
         if (kind == KIND_BYTES_REVERSED && (widths[a] & 7) != 0) {
             throw new IllegalArgumentException("the word has no whole bytes");
         }
-        if (kind >= KIND_QUOTIENT && kind <= KIND_SIGNED_REST && isNought(b)) {
+        load(a, left);
+        // The operations of one word get it twice: b need not be a word.
+        load(alone ? a : b, right);
+        if (kind >= KIND_QUOTIENT && kind <= KIND_SIGNED_REST && Rows.isNought(right)) {
             throw new ArithmeticException("a quotient or rest by 0");
         }
         requireRoom();
-        load(a, left);
-        if (alone) {
-            Rows.clear(right);
-        } else {
-            load(b, right);
-        }
         operations.run(kind, widths[a], left, right, made);
         return keepMade(widths[a]);
     }
@@ -101,8 +98,7 @@ public final class WidthWords {
         }
         requireRoom();
         load(word, left);
-        Rows.clear(made);
-        Rows.orMovedUp(left, -from, made);
+        Rows.moveUp(left, -from, made);
         return keepMade(to - from + 1);
     }
 
@@ -168,7 +164,7 @@ public final class WidthWords {
     public int real(int kind, int a, int b, int rounding) throws ArrayIndexOutOfBoundsException, IllegalArgumentException, UnsupportedOperationException {
         requireWord(a);
         requireWord(b);
-        requireKind(kind, PointNumbers.KIND_QUOTIENT);
+        requireKind(kind, PointNumbers.LAST_KIND);
         requireKind(rounding, PointNumbers.WAY_NEAREST_AWAY);
         requireOneWidth(a, b);
         int width = widths[a];
@@ -253,14 +249,6 @@ public final class WidthWords {
         return hasBit(word, widths[word] - 1);
     }
 
-    private boolean isNought(int word) {
-        long together = 0;
-        for (int k = 0; k < LIMBS; k++) {
-            together |= store[word * LIMBS + k];
-        }
-        return together == 0;
-    }
-
     /** Rows of limbs, the lowest one first. */
     static final class Rows {
         private Rows() {
@@ -312,7 +300,14 @@ public final class WidthWords {
             return within == 0 ? low : low | limbOrNought(row, k + 1) << (LIMB_BITS - within);
         }
 
-        /** Adds the bits of a row to another one, n places higher (lower when n is below 0). */
+        /** A row is another one, n places higher (lower when n is below 0). */
+        static void moveUp(long[] row, int n, long[] out) {
+            for (int k = 0; k < out.length; k++) {
+                out[k] = bitsFrom(row, k * LIMB_BITS - n);
+            }
+        }
+
+        /** Likewise, but the bits that the row has already stay. */
         static void orMovedUp(long[] row, int n, long[] out) {
             for (int k = 0; k < out.length; k++) {
                 out[k] |= bitsFrom(row, k * LIMB_BITS - n);
@@ -457,8 +452,10 @@ public final class WidthWords {
             // With the divisor's highest bit at the top of a digit, a guess from the highest
             // digits is at most 2 too great.
             int up = -length & (DIGIT_BITS - 1);
-            splitMoved(a, up, upper);
-            splitMoved(b, up, lower);
+            Rows.moveUp(a, up, moved);
+            split(moved, upper);
+            Rows.moveUp(b, up, moved);
+            split(moved, lower);
             Rows.clear(answer);
             if (digits > 0) {
                 for (int place = digitsOf(width) - digits; place >= 0; place--) {
@@ -467,8 +464,7 @@ public final class WidthWords {
             }
             merge(answer, quotient);
             merge(upper, moved);
-            Rows.clear(rest);
-            Rows.orMovedUp(moved, -up, rest);
+            Rows.moveUp(moved, -up, rest);
         }
 
         /** Takes the lower row from the upper one, from a place on, as often as it goes: how often. */
@@ -523,12 +519,6 @@ public final class WidthWords {
             return (bits + DIGIT_BITS - 1) / DIGIT_BITS;
         }
 
-        private void splitMoved(long[] row, int up, long[] digits) {
-            Rows.clear(moved);
-            Rows.orMovedUp(row, up, moved);
-            split(moved, digits);
-        }
-
         private static void split(long[] row, long[] digits) {
             for (int k = 0; k < row.length && 2 * k + 1 < digits.length; k++) {
                 digits[2 * k] = row[k] & LOW_HALF;
@@ -559,6 +549,7 @@ public final class WidthWords {
             width = bits;
             carry = 0;
             overflow = 0;
+            // Not every operation writes the limb above a word.
             Rows.clear(out);
             switch (kind) {
                 case 0:
@@ -620,14 +611,13 @@ public final class WidthWords {
 
         private void product(int kind, long[] a, long[] b, long[] out) {
             digits.multiply(a, b, width);
-            Rows.orMovedUp(digits.product, -width, out);
+            Rows.moveUp(digits.product, -width, out);
             if (kind == KIND_PRODUCT_ABOVE) {
                 return;
             }
             carry = Rows.isNought(out) ? 0 : 1;
             boolean fits = fitsWithSign(a, b, out);
-            Rows.clear(out);
-            Rows.orMovedUp(digits.product, 0, out);
+            Rows.moveUp(digits.product, 0, out);
             overflow = fits ? 0 : 1;
         }
 
@@ -664,7 +654,7 @@ public final class WidthWords {
             }
             digits.divide(a, b, width);
             boolean isQuotient = kind == KIND_QUOTIENT || kind == KIND_SIGNED_QUOTIENT;
-            Rows.orMovedUp(isQuotient ? digits.quotient : digits.rest, 0, out);
+            Rows.moveUp(isQuotient ? digits.quotient : digits.rest, 0, out);
             boolean answerBelow = isQuotient ? aBelow != bBelow : aBelow;
             if (signed && isQuotient && !answerBelow) {
                 overflow = highest(out);
@@ -678,11 +668,11 @@ public final class WidthWords {
             // One place beyond the width moves all bits out, and so do more.
             int n = Rows.atMost(b, width + 1);
             if (kind == KIND_MOVED_UP) {
-                Rows.orMovedUp(a, n, out);
+                Rows.moveUp(a, n, out);
                 carry = Rows.bitOrNought(a, width - n);
                 return;
             }
-            Rows.orMovedUp(a, -n, out);
+            Rows.moveUp(a, -n, out);
             carry = Rows.bitOrNought(a, n - 1);
             if (kind == KIND_MOVED_DOWN_SIGNED && highest(a) == 1) {
                 Rows.fillFrom(out, Math.max(width - n, 0));
@@ -693,7 +683,7 @@ public final class WidthWords {
         private void turned(int kind, long[] a, long[] b, long[] out) {
             int n = Rows.restBy(b, width);
             int up = kind == KIND_TURNED_DOWN ? width - n : n;
-            Rows.orMovedUp(a, up, out);
+            Rows.moveUp(a, up, out);
             Rows.orMovedUp(a, up - width, out);
         }
 
@@ -722,17 +712,22 @@ public final class WidthWords {
                 long limb = a[LIMBS - 1 - k];
                 backwards[k] = kind == KIND_BITS_REVERSED ? Rows.bitsReversed(limb) : Rows.bytesReversed(limb);
             }
-            Rows.orMovedUp(backwards, width - MOST_BITS, out);
+            Rows.moveUp(backwards, width - MOST_BITS, out);
         }
     }
 
-    /** Numbers with a point of one width, and the flags of the latest answer. */
+    /**
+     * Numbers with a point of one width, and the flags of the latest answer. What is to be rounded
+     * is whole * 2 to a power, with a sign; it is held in fields until it is.
+     */
     static final class PointNumbers {
-        static final int KIND_QUOTIENT = 3;
+        static final int LAST_KIND = 3;
         static final int WAY_NEAREST_AWAY = 4;
         private static final int WAY_NEAREST_EVEN = 0;
         private static final int WAY_UP = 2;
         private static final int WAY_DOWN = 3;
+        private static final int KIND_DIFFERENCE = 1;
+        private static final int KIND_PRODUCT = 2;
         private static final int NOT_VALID = 1;
         private static final int BY_ZERO = 2;
         private static final int TOO_GREAT = 4;
@@ -749,6 +744,9 @@ public final class WidthWords {
         private int exponentOnes = 15;
         private int lowestPower = -9;
         private long signBit = 128;
+        private boolean sign = false;
+        private long whole = 0;
+        private int power = 0;
 
         void choose(int width, int rounding) {
             way = rounding;
@@ -760,31 +758,49 @@ public final class WidthWords {
             signBit = 1L << (width - 1);
         }
 
-        long answer(int kind, long a, long b) {
+        long answer(int kind, long a, long second) {
             raised = 0;
-            if (isNone(a) || isNone(b)) {
+            if (isNone(a) || isNone(second)) {
                 return none();
             }
-            switch (kind) {
-                case 0:
-                    return sum(a, b);
-                case 1:
-                    return sum(a, b ^ signBit);
-                case 2:
-                    return product(a, b);
-                default:
-                    return quotient(a, b);
+            long b = kind == KIND_DIFFERENCE ? second ^ signBit : second;
+            boolean isQuotient = kind == LAST_KIND;
+            if (isInfinite(a) || isInfinite(b) || isQuotient && isNought(b)) {
+                return withoutRounding(kind, a, b);
             }
+            if (isQuotient) {
+                divide(a, b);
+            } else if (kind == KIND_PRODUCT) {
+                multiply(a, b);
+            } else {
+                add(a, b);
+            }
+            return rounded();
         }
 
-        private long sum(long a, long b) {
+        /** What infinite ones and quotients by 0 answer; a - b comes with b's sign turned over. */
+        private long withoutRounding(int kind, long a, long b) {
             boolean otherSigns = signOf(a) != signOf(b);
-            if (isInfinite(a)) {
-                return isInfinite(b) && otherSigns ? notValid() : a;
+            boolean bothInfinite = isInfinite(a) && isInfinite(b);
+            if (kind <= KIND_DIFFERENCE) {
+                long infiniteOne = isInfinite(a) ? a : b;
+                return bothInfinite && otherSigns ? notValid() : infiniteOne;
+            }
+            if (kind == KIND_PRODUCT) {
+                return isNought(a) || isNought(b) ? notValid() : infinite(otherSigns);
+            }
+            if (bothInfinite || isNought(a) && isNought(b)) {
+                return notValid();
             }
             if (isInfinite(b)) {
-                return b;
+                return withSign(otherSigns, 0);
             }
+            raised = isInfinite(a) ? 0 : BY_ZERO;
+            return infinite(otherSigns);
+        }
+
+        private void add(long a, long b) {
+            boolean otherSigns = signOf(a) != signOf(b);
             boolean aAbove = powerOf(a) >= powerOf(b);
             long high = aAbove ? a : b;
             long low = aAbove ? b : a;
@@ -793,95 +809,64 @@ public final class WidthWords {
             long highPart = wholeOf(high) << up;
             long lowPart = movedDown(wholeOf(low), apart - up);
             long total = otherSigns ? highPart - lowPart : highPart + lowPart;
+            whole = total < 0 ? -total : total;
+            power = powerOf(high) - up;
+            sign = signOf(high) != total < 0;
             if (total == 0) {
-                return noughtOf(otherSigns ? way == WAY_DOWN : signOf(a));
+                sign = otherSigns ? way == WAY_DOWN : signOf(a);
             }
-            boolean sign = signOf(high) != total < 0;
-            return rounded(sign, total < 0 ? -total : total, powerOf(high) - up);
         }
 
-        private long product(long a, long b) {
-            boolean sign = signOf(a) != signOf(b);
-            if (isInfinite(a) || isInfinite(b)) {
-                return isNought(a) || isNought(b) ? notValid() : infinite(sign);
-            }
-            if (isNought(a) || isNought(b)) {
-                return noughtOf(sign);
-            }
-            return rounded(sign, wholeOf(a) * wholeOf(b), powerOf(a) + powerOf(b));
+        private void multiply(long a, long b) {
+            sign = signOf(a) != signOf(b);
+            whole = wholeOf(a) * wholeOf(b);
+            power = powerOf(a) + powerOf(b);
         }
 
-        private long quotient(long a, long b) {
-            boolean sign = signOf(a) != signOf(b);
-            if (isInfinite(a)) {
-                return isInfinite(b) ? notValid() : infinite(sign);
-            }
-            if (isInfinite(b)) {
-                return noughtOf(sign);
-            }
-            if (isNought(b)) {
-                return byNought(a, sign);
-            }
-            if (isNought(a)) {
-                return noughtOf(sign);
-            }
-            return finiteQuotient(sign, a, b);
-        }
-
-        private long byNought(long a, boolean sign) {
-            if (isNought(a)) {
-                return notValid();
-            }
-            raised = BY_ZERO;
-            return infinite(sign);
-        }
-
-        private long finiteQuotient(boolean sign, long a, long b) {
-            long divisor = wholeOf(b);
-            if (divisor <= 0) {
-                return noughtOf(sign);
-            }
+        /** The divisor is not 0; it is looked at all the same before it divides. */
+        private void divide(long a, long b) {
             // A small fraction is moved up first, so that the quotient has enough bits.
             int up = fractionBits + 1 - Rows.lengthOfLimb(wholeOf(a)) + SPARE_BITS;
             long dividend = wholeOf(a) << up;
-            long quotient = dividend / divisor;
-            long whole = quotient * divisor == dividend ? quotient : quotient | 1;
-            return rounded(sign, whole, powerOf(a) - up - powerOf(b));
+            long divisor = wholeOf(b);
+            long quotient = divisor > 0 ? dividend / divisor : 0;
+            sign = signOf(a) != signOf(b);
+            whole = quotient * divisor == dividend ? quotient : quotient | 1;
+            power = powerOf(a) - up - powerOf(b);
         }
 
         /**
          * Moves bits down; when bits that are 1 go out, the lowest one that stays is 1: the number
          * stays between the same two even ones, and more than one bit goes when it is rounded.
          */
-        private static long movedDown(long whole, int n) {
+        private static long movedDown(long bits, int n) {
             int places = Math.min(n, FAR);
-            long stays = whole >>> places;
-            return stays << places == whole ? stays : stays | 1;
+            long stays = bits >>> places;
+            return stays << places == bits ? stays : stays | 1;
         }
 
-        /** The number whole * 2 to the power told, not 0, with a sign. */
-        private long rounded(boolean sign, long whole, int power) {
+        private long rounded() {
+            if (whole == 0) {
+                return withSign(sign, 0);
+            }
             int highestPower = power + Rows.lengthOfLimb(whole) - 1;
             int lastPower = Math.max(highestPower - fractionBits, lowestPower);
-            int out = lastPower - power;
-            if (out <= 0) {
-                return finite(sign, whole << -out, lastPower);
+            if (lastPower <= power) {
+                return finite(whole << (power - lastPower), lastPower);
             }
-            int places = Math.min(out, FAR);
+            int places = Math.min(lastPower - power, FAR);
             long kept = whole >>> places;
             long gone = whole - (kept << places);
             if (gone != 0) {
                 raised |= NOT_EXACT;
                 raised |= highestPower < lowestPower + fractionBits ? TOO_SMALL : 0;
             }
-            if (goesAway(sign, kept, gone, 1L << (places - 1))) {
-                kept++;
-            }
-            return finite(sign, kept, lastPower);
+            boolean away = goesAway(kept, gone, 1L << (places - 1));
+            return finite(away ? kept + 1 : kept, lastPower);
         }
 
         /** Whether what is gone makes the number that is kept one greater without sign. */
-        private boolean goesAway(boolean sign, long kept, long gone, long half) {
+        private boolean goesAway(long kept, long gone, long half) {
             switch (way) {
                 case WAY_NEAREST_EVEN:
                     return gone > half || gone == half && (kept & 1) == 1;
@@ -896,51 +881,35 @@ public final class WidthWords {
             }
         }
 
-        /** The word of a number that has no more bits than there are, or is the next power of two. */
-        private long finite(boolean sign, long whole, int power) {
+        /** The word of a number that has the bits of a fraction and one more, or just outgrew them. */
+        private long finite(long kept, int lastPower) {
             long hidden = 1L << fractionBits;
-            if (whole < hidden) {
-                return withSign(sign, whole);
+            if (kept < hidden) {
+                return withSign(sign, kept);
             }
-            boolean grown = whole == hidden << 1;
-            long fraction = grown ? 0 : whole - hidden;
-            int exponent = power - lowestPower + (grown ? 2 : 1);
+            boolean outgrown = kept == hidden << 1;
+            long fraction = outgrown ? 0 : kept - hidden;
+            int exponent = lastPower - lowestPower + (outgrown ? 2 : 1);
             if (exponent >= exponentOnes) {
-                return tooGreat(sign);
+                return tooGreat();
             }
             return withSign(sign, (long) exponent << fractionBits | fraction);
         }
 
-        private long tooGreat(boolean sign) {
+        private long tooGreat() {
             raised |= TOO_GREAT | NOT_EXACT;
-            switch (way) {
-                case WAY_NEAREST_EVEN:
-                case WAY_NEAREST_AWAY:
-                    return infinite(sign);
-                case WAY_UP:
-                    return sign ? greatest(true) : infinite(false);
-                case WAY_DOWN:
-                    return sign ? infinite(true) : greatest(false);
-                default:
-                    return greatest(sign);
-            }
+            boolean nearest = way == WAY_NEAREST_EVEN || way == WAY_NEAREST_AWAY;
+            boolean away = way == (sign ? WAY_DOWN : WAY_UP);
+            // The finite numbers end just below the infinite one.
+            return nearest || away ? infinite(sign) : infinite(sign) - 1;
         }
 
-        private long withSign(boolean sign, long bits) {
-            return sign ? bits | signBit : bits;
+        private long withSign(boolean below, long bits) {
+            return below ? bits | signBit : bits;
         }
 
-        private long noughtOf(boolean sign) {
-            return withSign(sign, 0);
-        }
-
-        private long infinite(boolean sign) {
-            return withSign(sign, (long) exponentOnes << fractionBits);
-        }
-
-        /** The finite numbers end just below the infinite one. */
-        private long greatest(boolean sign) {
-            return infinite(sign) - 1;
+        private long infinite(boolean below) {
+            return withSign(below, (long) exponentOnes << fractionBits);
         }
 
         private long none() {
