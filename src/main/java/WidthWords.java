@@ -549,8 +549,6 @@ public final class WidthWords {
             width = bits;
             carry = 0;
             overflow = 0;
-            // Not every operation writes the limb above a word.
-            Rows.clear(out);
             switch (kind) {
                 case 0:
                     sum(a, b, out);
