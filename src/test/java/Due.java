@@ -1,4 +1,5 @@
 import java.util.function.LongSupplier;
+import java.util.function.ToLongFunction;
 
 /** Compares answers with those that are due, and tells the ones that are not. */
 final class Due {
@@ -6,9 +7,15 @@ final class Due {
     private final String test;
     private long checked = 0;
     private long wrong = 0;
+    private String sentence = "";
 
     Due(String test) {
         this.test = test;
+    }
+
+    /** The document's words that the checks from here on are for. */
+    void about(String words) {
+        sentence = words;
     }
 
     void same(String call, Object got, Object want) {
@@ -41,6 +48,13 @@ final class Due {
         }
     }
 
+    /** Likewise, and nothing that can be asked of the object is another one after it. */
+    void unchanged(String call, WidthWords words, Class<? extends RuntimeException> want, ToLongFunction<WidthWords> asked) {
+        String before = State.of(words);
+        refused(call, want, () -> asked.applyAsLong(words));
+        same(call + ": the state", State.of(words), before);
+    }
+
     void end() {
         System.out.println(test + ": " + checked + " checked, " + wrong + " not as due");
         if (wrong != 0 || checked == 0) {
@@ -51,7 +65,7 @@ final class Due {
     private void tell(String text) {
         wrong++;
         if (wrong <= MOST_TOLD) {
-            System.out.println(test + ": " + text);
+            System.out.println(test + ": " + text + (sentence.isEmpty() ? "" : " [" + sentence + "]"));
         }
     }
 }

@@ -12,6 +12,10 @@ final class Numbers {
         return BigInteger.ONE.shiftLeft(n);
     }
 
+    static BigInteger ones(int n) {
+        return power(n).subtract(BigInteger.ONE);
+    }
+
     static BigInteger cut(BigInteger number, int width) {
         return number.mod(power(width));
     }
