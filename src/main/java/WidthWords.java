@@ -12,6 +12,7 @@ public final class WidthWords {
     /** One limb more than a word has, so that a carry out of 512 bits still has its place. */
     private static final int ROW = LIMBS + 1;
     private static final long LOW_HALF = 0xFFFFFFFFL;
+    private static final long HIGHEST_BIT = 1L << 63;
 
     private static final int KIND_PRODUCT_ABOVE = 3;
     private static final int KIND_QUOTIENT = 4;
@@ -141,7 +142,7 @@ public final class WidthWords {
             long y = store[b * LIMBS + k];
             if (x != y) {
                 // Java compares with sign: the highest bit turned over makes that the order without.
-                return (x ^ Long.MIN_VALUE) < (y ^ Long.MIN_VALUE) ? -1 : 1;
+                return (x ^ HIGHEST_BIT) < (y ^ HIGHEST_BIT) ? -1 : 1;
             }
         }
         return 0;
@@ -172,7 +173,6 @@ public final class WidthWords {
             throw new IllegalArgumentException("the words are too wide or too narrow for a point");
         }
         requireRoom();
-        Rows.clear(made);
         pointNumbers.choose(width, rounding);
         made[0] = pointNumbers.answer(kind, store[a * LIMBS], store[b * LIMBS]);
         return keepMade(width);

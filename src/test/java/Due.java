@@ -42,10 +42,15 @@ final class Due {
         try {
             tell(call + " answered " + asked.getAsLong() + ", due is " + want.getSimpleName());
         } catch (RuntimeException thrown) {
-            if (thrown.getClass() != want) {
-                tell(call + " threw " + thrown + ", due is " + want.getSimpleName());
+            if (thrown.getClass() != want || isTheMachines(thrown.getMessage())) {
+                tell(call + " threw " + thrown + ", due is the program's " + want.getSimpleName());
             }
         }
+    }
+
+    /** The machine has its own texts, or none when it has thrown often; the program's are others. */
+    private static boolean isTheMachines(String text) {
+        return text == null || text.startsWith("Index ") || text.startsWith("arraycopy: ") || text.equals("/ by zero");
     }
 
     /** Likewise, and nothing that can be asked of the object is another one after it. */

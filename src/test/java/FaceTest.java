@@ -78,6 +78,12 @@ public final class FaceTest {
         for (Class<?> inside : WidthWords.class.getDeclaredClasses()) {
             int how = inside.getModifiers();
             DUE.same(inside.getSimpleName() + " is static and not public", Modifier.isStatic(how) && !Modifier.isPublic(how) && !Modifier.isProtected(how), true);
+            for (Method method : inside.getDeclaredMethods()) {
+                DUE.same("a method inside bears a name of the face: " + method.getName(), face.contains(method.getName()), false);
+            }
+            for (Field field : inside.getDeclaredFields()) {
+                DUE.same("static fields are final: " + field.getName(), !Modifier.isStatic(field.getModifiers()) || Modifier.isFinal(field.getModifiers()), true);
+            }
         }
     }
 }

@@ -11,7 +11,7 @@ public final class LanguageTest {
     private static final Set<String> THROWN = Set.of("ArrayIndexOutOfBoundsException", "IllegalArgumentException",
         "ArithmeticException", "UnsupportedOperationException");
     private static final Set<String> CALLED = Set.of("Math.min", "Math.max", "Math.floorMod", "Long.bitCount",
-        "Long.MIN_VALUE", "System.arraycopy");
+        "System.arraycopy");
 
     public static void main(String[] args) throws IOException {
         String text = Files.readString(Path.of("src/main/java/WidthWords.java"));
@@ -30,7 +30,31 @@ public final class LanguageTest {
                 DUE.same("made outside a field: " + line.trim(), line.contains("final"), true);
             }
         }
+        shapes(code);
         DUE.end();
+    }
+
+    /** Rule 11: short methods of few parameters, few classes. */
+    private static void shapes(String code) {
+        int classes = 0;
+        int begun = -1;
+        String[] lines = code.split("\n");
+        for (int k = 0; k < lines.length; k++) {
+            String line = lines[k];
+            String indent = line.substring(0, line.length() - line.stripLeading().length());
+            boolean opens = line.endsWith("{");
+            classes += opens && line.contains(" class ") ? 1 : 0;
+            if (opens && line.contains("(") && (indent.length() == 4 || indent.length() == 8 && begun < 0)) {
+                begun = k;
+                String parameters = line.substring(line.indexOf('(') + 1, line.indexOf(')'));
+                DUE.same("at most seven parameters: " + line.strip(), parameters.split(",").length <= 7, true);
+            }
+            if (begun >= 0 && line.strip().equals("}") && lines[begun].startsWith(indent) && lines[begun].charAt(indent.length()) != ' ') {
+                DUE.same("some sixty lines at most: " + lines[begun].strip(), k - begun <= 60, true);
+                begun = -1;
+            }
+        }
+        DUE.same("some twelve classes at most", classes <= 12, true);
     }
 
     private static void only(String pattern, String code, Set<String> allowed) {

@@ -68,23 +68,31 @@ public final class OpEdgesTest {
         return BigInteger.valueOf(number);
     }
 
-    /** An operation behind one with C, O, Z alone and behind one with N alone: both must give way. */
+    /**
+     * An operation behind one with C, O, Z alone and behind one with N alone: both must give way.
+     * Products and quotients of ones stand before it, and it is asked twice, so that nothing that
+     * an operation leaves behind inside the object may come into the next one's answer.
+     */
     private static void due(int kind, int width, BigInteger a, BigInteger b, BigInteger answer, String flags) {
         for (int before = 0; before < 2; before++) {
             WidthWords words = new WidthWords(width);
             int first = Numbers.put(words, Numbers.cut(a, width));
             int second = Numbers.put(words, Numbers.cut(b, width));
             int third = Numbers.put(words, before == 0 ? top(width) : NIL);
+            int fourth = words.op(16, Numbers.put(words, NIL), 0);
+            words.op(2, fourth, fourth);
+            words.op(4, fourth, fourth);
             words.op(before == 0 ? 0 : 16, third, third);
             String call = "op(" + kind + ") of " + a.toString(16) + " and " + b.toString(16) + " in width " + width;
             int made = words.op(kind, first, second);
-            DUE.same(call + ": its number", made, 4);
+            DUE.same(call + ": its number", made, 8);
             DUE.same(call, Numbers.read(words, made).toString(16), Numbers.cut(answer, width).toString(16));
             DUE.same(call + ": its width", words.width(made), width);
             for (int flag = 0; flag < 4; flag++) {
                 boolean due = flags.indexOf("COZN".charAt(flag)) >= 0;
                 DUE.same(call + ": " + "COZN".charAt(flag), words.flag(flag), due ? 1 : 0);
             }
+            DUE.same(call + ", asked again", Numbers.read(words, words.op(kind, first, second)), Numbers.read(words, made));
         }
     }
 

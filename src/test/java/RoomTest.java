@@ -52,6 +52,8 @@ public final class RoomTest {
             int asked = kind;
             DUE.unchanged("op(" + kind + ")", words, FULL, x -> x.op(asked, 2, 1));
         }
+        DUE.unchanged("op(0) of the last word", words, FULL, x -> x.op(0, 599, 599));
+        DUE.unchanged("field of the last word", words, FULL, x -> x.field(599, 0, 1));
         DUE.unchanged("op(16) without b", words, FULL, x -> x.op(16, 2, 600));
         DUE.unchanged("field", words, FULL, x -> x.field(0, 0, 3));
         DUE.unchanged("join", words, FULL, x -> x.join(0, 1));
