@@ -527,7 +527,6 @@ public final class WidthWords {
         }
 
         private static void merge(long[] digits, long[] row) {
-            Rows.clear(row);
             for (int k = 0; k < row.length && 2 * k + 1 < digits.length; k++) {
                 row[k] = digits[2 * k] | digits[2 * k + 1] << DIGIT_BITS;
             }
